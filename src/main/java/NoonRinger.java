@@ -674,9 +674,12 @@ public final class NoonRinger {
         private static final int LONGEST_NAME = 8;
         private static final int LONGEST_INT = 4;
 
-        private final int[] kinds = new int[Tape.LENGTH];
-        private final int[] starts = new int[Tape.LENGTH];
-        private final long[] values = new long[Tape.LENGTH];
+        /** The 401st is still asked for its kind; the one behind it only ends it. */
+        private static final int MOST_SCANNED = MOST + 2;
+
+        private final int[] kinds = new int[MOST_SCANNED];
+        private final int[] starts = new int[MOST_SCANNED];
+        private final long[] values = new long[MOST_SCANNED];
         private final long[] words = new long[WORD_COUNT];
         private int count;
         private int end;
@@ -717,7 +720,7 @@ public final class NoonRinger {
             count = 0;
             end = tape.size();
             int before = END;
-            for (int i = 0; i < end; i++) {
+            for (int i = 0; i < end && count < MOST_SCANNED; i++) {
                 int sign = tape.byteAt(i);
                 int kind = kindBegunBy(sign);
                 boolean isLong = kind == NAME || kind == INT;
@@ -1227,9 +1230,11 @@ public final class NoonRinger {
         static final int NUMBER = 1;
         static final int VAR = 2;
         static final int SKIP_UNLESS_LESS = 3;
+        /** These four in the order of their signs' kinds. */
         static final int PLUS = 4;
         private static final int MINUS = 5;
         private static final int TIMES = 6;
+        private static final int OVER = 7;
 
         static final int FAR = 0;
         static final int WALKED = 1;
@@ -1313,7 +1318,7 @@ public final class NoonRinger {
                     int left = at(stack, top - 2);
                     top -= 2;
                     if (step != SKIP_UNLESS_LESS) {
-                        if (step > TIMES && right == 0) {
+                        if (step == OVER && right == 0) {
                             return 0;
                         }
                         put(stack, top, joined(step, left, right));
@@ -1334,8 +1339,10 @@ public final class NoonRinger {
                     return left - right;
                 case TIMES:
                     return left * right;
-                default:
+                case OVER:
                     return right != 0 ? left / right : 0;
+                default:
+                    return 0;
             }
         }
 

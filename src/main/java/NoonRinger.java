@@ -216,7 +216,7 @@ public final class NoonRinger {
 
     private void remember() {
         newest = (newest + 1) % MOST_UNDONE;
-        past.put(newest, now);
+        past.keep(newest, now);
         undoable = Math.min(undoable + 1, MOST_UNDONE);
     }
 
@@ -494,7 +494,7 @@ public final class NoonRinger {
         if (!isSlot(slot)) {
             return false;
         }
-        slots.put(slot, now);
+        slots.keep(slot, now);
         heldSlots |= bit(slot);
         return true;
     }
@@ -1447,9 +1447,9 @@ public final class NoonRinger {
             cells = new int[Math.max(places, 0) * State.SIZE];
         }
 
-        void put(int place, State state) {
+        void keep(int place, State state) {
             for (int i = 0; i < State.SIZE; i++) {
-                NoonRinger.put(cells, place * State.SIZE + i, state.get(i));
+                put(cells, place * State.SIZE + i, state.get(i));
             }
         }
 
@@ -1805,8 +1805,8 @@ public final class NoonRinger {
         private void walk(State state, int person) {
             int goal = state.of(person, State.GOAL);
             int place = state.of(person, State.PLACE);
-            int road = ways.roadToward(place, goal);
-            if (goal < 0 || road < 0) {
+            int road = goal < 0 ? NOT : ways.roadToward(place, goal);
+            if (road < 0) {
                 return;
             }
             int reached = realm.acrossFrom(place, road);

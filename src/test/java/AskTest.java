@@ -309,6 +309,10 @@ public final class AskTest {
         CHECK.due("none", x.clerks(0) + x.clerks(1), 0);
         x = Check.of("town a; town b; town c; town d; town e; town f; town g; road a b 1; road b c 1; road c d 1;"
             + "road d e 1; road e f 1; road f g 1; road g a 1;");
+        NoonRinger all = Check.of("town a; town b; town c; town d; road a b 1; road a c 1; road a d 1; road b c 1;"
+            + "road b d 1; road c d 1;");
+        CHECK.due("each with each", all.clerks(0), 3);
+        CHECK.due("the least bits", all.clerks(1), 7);
         CHECK.due("round seven towns", x.clerks(0), 4);
         CHECK.due("the least bits", x.clerks(1), 1 + 2 + 8 + 32);
     }

@@ -180,6 +180,8 @@ public final class DoneTest {
         CHECK.due("not barred", x.admit(1), false);
         x.days(3);
         CHECK.due("barred", x.count(6), 2);
+        CHECK.due("person(1, 7)", x.person(1, 7), 1);
+        CHECK.due("person(0, 7)", x.person(0, 7), 0);
         CHECK.due("no such person", x.admit(2), false);
         CHECK.due("no such person", x.admit(-1), false);
         CHECK.due("p is not", x.admit(0), false);

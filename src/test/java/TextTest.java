@@ -10,6 +10,7 @@ public final class TextTest {
         placesOfTokens();
         faultsOfRoom();
         faultsOfNames();
+        namesAreToldApart();
         faultsOfNumbers();
         whichFaultIsFirst();
         goodTexts();
@@ -197,6 +198,14 @@ public final class TextTest {
         fault("town abcdefgh; capital abcdefg;", 4, 23);
     }
 
+    private static void namesAreToldApart() {
+        good("town a; town aa; town aaaaaaaa; town z; town ba; town az; town b;");
+        good("town abcdefgh; town bcdefgh; town abcdefg; town townx; town tow; town ifthen; town fart;");
+        NoonRinger x = Check.of("town a; town aa; town az; town ba; town z; road aa ba 5; road z az 6;");
+        CHECK.due("aa to ba", x.road(0, 0) * 10 + x.road(0, 1), 13);
+        CHECK.due("z to az", x.road(1, 0) * 10 + x.road(1, 1), 42);
+    }
+
     private static void faultsOfNumbers() {
         String two = "town a; town b; ";
         good(two + "road a b 1; road b a 99; road a b 0001;");
@@ -241,6 +250,15 @@ public final class TextTest {
         CHECK.due("strokes if not told", x.person(0, 10), 7);
         CHECK.due("gifts if not told", x.person(0, 11), 1);
         CHECK.due("doubts if not told", x.person(0, 12), 0);
+        // 9 tokens and 3 more of the law: 387 for 194 units and what is between them
+        x = Check.of("town a; person p 1 a a; claims = 1" + many(" + 1", 193) + ";");
+        CHECK.due("a law of 390 tokens", x.person(0, 9), 194);
+        x = Check.of(Samples.TWO_LIARS.replace("seed 7;", "").replace("50", "36"));
+        x.days(1);
+        CHECK.due("the seed is 0 if not told, its lot 36", x.count(6), 0);
+        x = Check.of(Samples.TWO_LIARS.replace("seed 7;", "").replace("50", "37"));
+        x.days(1);
+        CHECK.due("the seed is 0 if not told, its lot 36", x.count(6), 2);
     }
 
     private static void aFaultChangesNothing() {

@@ -1,22 +1,74 @@
+import java.lang.reflect.Method;
+import java.lang.reflect.Modifier;
+import java.util.Arrays;
+import java.util.Comparator;
+
 /** Counts the answers that are not due, prints them, and feeds texts. */
 final class Check {
     private static final int MOST_PRINTED = 40;
 
     private int asked;
     private int wrong;
+    private String test = "";
+    private boolean testIsWrong;
+
+    /** Runs all tests of a class, and ends the program as end() does. */
+    void runAll(Class<?> tests) throws ReflectiveOperationException {
+        run(tests);
+        end();
+    }
+
+    /** Runs each test of a class, which is each static method without parameters that is not private. */
+    void run(Class<?> tests) throws ReflectiveOperationException {
+        Method[] methods = tests.getDeclaredMethods();
+        Arrays.sort(methods, Comparator.comparing(Method::getName));
+        for (Method m : methods) {
+            if (Modifier.isStatic(m.getModifiers()) && !Modifier.isPrivate(m.getModifiers()) && m.getParameterCount() == 0) {
+                int before = asked;
+                test = m.getName() + ": ";
+                testIsWrong = false;
+                m.invoke(null);
+                due("an answer is looked at", asked > before, true);
+            }
+        }
+    }
 
     void due(String call, long got, long want) {
         asked++;
         if (got != want) {
-            wrong++;
-            if (wrong <= MOST_PRINTED) {
-                System.out.println(call + " answered " + got + ", due is " + want);
-            }
+            tell(call, "" + got, "" + want);
         }
     }
 
     void due(String call, boolean got, boolean want) {
         due(call, got ? 1 : 0, want ? 1 : 0);
+    }
+
+    void due(String call, String got, String want) {
+        asked++;
+        if (!got.equals(want)) {
+            tell(call, got, want);
+        }
+    }
+
+    private void tell(String call, String got, String want) {
+        wrong++;
+        if (wrong <= MOST_PRINTED || !testIsWrong) {
+            System.out.println(test + call + " answered " + got + ", due is " + want);
+        }
+        testIsWrong = true;
+    }
+
+    /** What a new object that is fed a text says of it. */
+    void fault(String text, int number, int place) {
+        NoonRinger x = new NoonRinger();
+        feed(x, text);
+        due("read() of '" + text + "'", x.read(), number);
+        due("place() of '" + text + "'", x.place(), place);
+    }
+
+    void good(String text) {
+        fault(text, 0, NoonRinger.NONE);
     }
 
     int wrong() {
@@ -49,5 +101,20 @@ final class Check {
             throw new IllegalStateException("fault " + fault + " at " + x.place() + " of: " + text);
         }
         return x;
+    }
+
+    /** All that calls can change, told as one; of as few calls as that needs, as an object is used for 512 at most. */
+    static String all(NoonRinger x) {
+        StringBuilder so = new StringBuilder();
+        for (int what = 0; what < 17; what++) {
+            so.append(x.count(what)).append(' ');
+        }
+        for (int person = 0; person < x.count(2); person++) {
+            so.append("; person");
+            for (int what = 2; what < 8; what++) {
+                so.append(' ').append(x.person(person, what));
+            }
+        }
+        return so.toString();
     }
 }

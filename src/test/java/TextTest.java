@@ -20,14 +20,11 @@ public final class TextTest {
     }
 
     private static void fault(String text, int number, int place) {
-        NoonRinger x = new NoonRinger();
-        Check.feed(x, text);
-        CHECK.due("read() of '" + text + "'", x.read(), number);
-        CHECK.due("place() of '" + text + "'", x.place(), place);
+        CHECK.fault(text, number, place);
     }
 
     private static void good(String text) {
-        fault(text, 0, -1);
+        CHECK.good(text);
     }
 
     private static void newObject() {

@@ -1,3 +1,4 @@
+import java.lang.reflect.InvocationTargetException;
 import java.lang.reflect.Method;
 import java.lang.reflect.Modifier;
 import java.util.Arrays;
@@ -18,7 +19,10 @@ final class Check {
         end();
     }
 
-    /** Runs each test of a class, which is each static method without parameters that is not private. */
+    /**
+     * Runs each test of a class, which is each static method without parameters that is not private. One that throws
+     * is wrong, but does not keep the others from being run.
+     */
     void run(Class<?> tests) throws ReflectiveOperationException {
         Method[] methods = tests.getDeclaredMethods();
         Arrays.sort(methods, Comparator.comparing(Method::getName));
@@ -27,8 +31,12 @@ final class Check {
                 int before = asked;
                 test = m.getName() + ": ";
                 testIsWrong = false;
-                m.invoke(null);
-                due("an answer is looked at", asked > before, true);
+                try {
+                    m.invoke(null);
+                } catch (InvocationTargetException e) {
+                    tell("the test", "by throwing " + e.getCause(), "no throw");
+                }
+                due("an answer is looked at", asked > before || testIsWrong, true);
             }
         }
     }

@@ -186,9 +186,12 @@ public final class DayBoundsTest {
         CHECK.due("p is at home in the capital", x.person(0, 8), 0);
         CHECK.due("q", x.person(1, 8), 7);
         CHECK.due("r", x.person(2, 8), 5);
+        CHECK.due("claims of p, who is at a", x.person(0, 9), 0);
+        CHECK.due("claims of q, who is at a", x.person(1, 9), 7);
+        CHECK.due("claims of r, who is there", x.person(2, 9), 5);
         x.send(1, 2);
         x.days(2);
-        CHECK.due("q at c", x.person(1, 9), 7);
+        CHECK.due("claims of q at home", x.person(1, 9), 7);
         x.close(1, true);
         CHECK.due("no way", x.person(1, 8), 999);
     }

@@ -501,6 +501,9 @@ public final class TextBoundsTest {
     static void ofOnePlaceTheLeastFault() {
         // a 401st TOKEN with which no text goes on
         fault(tokens400() + "x", 1, tokens400().length());
+        fault(filler(399) + "town;", 1, filler(399).length() + 4);
+        fault(filler(399) + "seed far", 1, filler(399).length() + 5);
+        fault(filler(398) + "seed 1)", 1, filler(398).length() + 6);
         // a 7th ( and a 5th if where none can stand
         fault("gifts = " + many("(", 6) + "1(", 1, 15);
         fault("gifts = " + many("if 1<2 then 3 else ", 4) + "4 if", 1, 8 + 76 + 2);
